@@ -111,25 +111,7 @@ public final class ChoirBook {
     }
 
     public int office(int year, int day, int what) {
-        if (!almanac.openAt(year, day)) {
-            return NONE;
-        }
-        switch (what) {
-            case 0:
-                return almanac.kindOn(day);
-            case 1:
-                return almanac.feastOn(day);
-            case 2:
-                return almanac.rankOn(day);
-            case 3:
-                return almanac.colourOn(day);
-            case 4:
-                return almanac.commemoratedOn(day);
-            case 5:
-                return almanac.ownDayOn(day);
-            default:
-                return NONE;
-        }
+        return almanac.openAt(year, day) ? almanac.officeOn(day, what) : NONE;
     }
 
     public int also(int year, int day, int i, int what) {
@@ -146,11 +128,11 @@ public final class ChoirBook {
         }
         switch (what) {
             case 0:
-                return within(v, KIND_WEEKDAY, KIND_VIGIL) ? almanac.daysOfKind(v) : NONE;
+                return within(v, KIND_WEEKDAY, KIND_VIGIL) ? almanac.daysWith(Almanac.OF_KIND, v) : NONE;
             case 1:
-                return within(v, 0, MOST_RANK) ? almanac.daysOfRank(v) : NONE;
+                return within(v, 0, MOST_RANK) ? almanac.daysWith(Almanac.OF_RANK, v) : NONE;
             case 2:
-                return within(v, 0, MOST_COLOUR) ? almanac.daysOfColour(v) : NONE;
+                return within(v, 0, MOST_COLOUR) ? almanac.daysWith(Almanac.OF_COLOUR, v) : NONE;
             case 3:
                 return v == 0 ? almanac.movedFeasts() : NONE;
             case 4:
@@ -420,8 +402,8 @@ public final class ChoirBook {
         }
 
         private int add(int from, int to, int sundays, int weekdays, int colour, boolean dates) {
-            if (many < 0 || many >= byDates.length || !within(sundays, 1, MOST_RANK) || !within(weekdays, 0, MOST_RANK - 1)
-                    || !within(colour, 0, MOST_COLOUR)) {
+            if (many < 0 || many >= byDates.length || !within(sundays, 1, MOST_RANK)
+                    || !within(weekdays, 0, MOST_RANK - 1) || !within(colour, 0, MOST_COLOUR)) {
                 return NONE;
             }
             byDates[many] = dates;
@@ -439,13 +421,11 @@ public final class ChoirBook {
         }
 
         int firstDay(int season, int year) {
-            int told = at(starts, season);
-            return isByDates(season) ? Days.roughDay(year, told) : Days.easter(year) + told;
+            return isByDates(season) ? Days.roughDay(year, at(starts, season)) : Days.easter(year) + at(starts, season);
         }
 
         int lastDay(int season, int year) {
-            int told = at(ends, season);
-            return isByDates(season) ? Days.roughDay(year, told) : Days.easter(year) + told;
+            return isByDates(season) ? Days.roughDay(year, at(ends, season)) : Days.easter(year) + at(ends, season);
         }
 
         private boolean isByDates(int season) {
@@ -578,6 +558,12 @@ public final class ChoirBook {
      * comparison orders candidates and no object is needed for them.
      */
     private static final class Almanac {
+        private static final int OF_KIND = 0;
+        private static final int OF_FEAST = 1;
+        private static final int OF_RANK = 2;
+        private static final int OF_COLOUR = 3;
+        private static final int OF_COMMEMORATED = 4;
+        private static final int OF_OWN_DAY = 5;
         private static final int FEAST_STEP = 64;
         private static final int RANK_STEP = 5 * FEAST_STEP;
         private static final int OCTAVE_DAYS = 7;
@@ -633,24 +619,30 @@ public final class ChoirBook {
             return (firstWeekday + day) % DAYS_OF_WEEK;
         }
 
-        int kindOn(int day) {
-            return kindIn(at(offices, day));
-        }
-
-        int feastOn(int day) {
-            return feastIn(at(offices, day));
+        int officeOn(int day, int what) {
+            int office = at(offices, day);
+            switch (what) {
+                case OF_COLOUR:
+                    return colourIn(office, day);
+                case OF_COMMEMORATED:
+                    return commemoratedOn(day);
+                case OF_OWN_DAY:
+                    return kindIn(office) == KIND_FEAST ? at(ownDays, feastIn(office)) : day;
+                default:
+                    return partOf(office, what);
+            }
         }
 
         int rankOn(int day) {
             return rankIn(at(offices, day));
         }
 
-        int colourOn(int day) {
-            int feast = feastOn(day);
+        private int colourIn(int office, int day) {
+            int feast = feastIn(office);
             return feast == NONE ? seasons.colourOf(at(seasonOn, day)) : feasts.colourOf(feast);
         }
 
-        int commemoratedOn(int day) {
+        private int commemoratedOn(int day) {
             int count = 0;
             for (int i = 0; i < MOST_COMMEMORATED; i++) {
                 if (at(others, day * MOST_COMMEMORATED + i) != NONE) {
@@ -660,58 +652,19 @@ public final class ChoirBook {
             return count;
         }
 
-        int ownDayOn(int day) {
-            return kindOn(day) == KIND_FEAST ? at(ownDays, feastOn(day)) : day;
-        }
-
         int commemoration(int day, int i, int what) {
-            if (!within(i, 0, MOST_COMMEMORATED - 1)) {
-                return NONE;
-            }
-            int candidate = at(others, day * MOST_COMMEMORATED + i);
-            if (candidate == NONE) {
-                return NONE;
-            }
-            switch (what) {
-                case 0:
-                    return kindIn(candidate);
-                case 1:
-                    return feastIn(candidate);
-                case 2:
-                    return rankIn(candidate);
-                default:
-                    return NONE;
-            }
+            int candidate = within(i, 0, MOST_COMMEMORATED - 1) ? at(others, day * MOST_COMMEMORATED + i) : NONE;
+            return candidate == NONE ? NONE : partOf(candidate, what);
         }
 
         int fateOf(int feast) {
             return at(fates, feast);
         }
 
-        int daysOfKind(int kind) {
+        int daysWith(int what, int v) {
             int count = 0;
             for (int day = 0; day < days; day++) {
-                if (kindOn(day) == kind) {
-                    count++;
-                }
-            }
-            return count;
-        }
-
-        int daysOfRank(int rank) {
-            int count = 0;
-            for (int day = 0; day < days; day++) {
-                if (rankOn(day) == rank) {
-                    count++;
-                }
-            }
-            return count;
-        }
-
-        int daysOfColour(int colour) {
-            int count = 0;
-            for (int day = 0; day < days; day++) {
-                if (colourOn(day) == colour) {
+                if (officeOn(day, what) == v) {
                     count++;
                 }
             }
@@ -941,6 +894,19 @@ public final class ChoirBook {
             }
         }
 
+        private static int partOf(int candidate, int what) {
+            switch (what) {
+                case OF_KIND:
+                    return kindIn(candidate);
+                case OF_FEAST:
+                    return feastIn(candidate);
+                case OF_RANK:
+                    return rankIn(candidate);
+                default:
+                    return NONE;
+            }
+        }
+
         private static int rankIn(int candidate) {
             return candidate / RANK_STEP;
         }
@@ -1154,7 +1120,7 @@ public final class ChoirBook {
             int next = 0;
             for (int slot = 0; slot < DAYS_OF_WEEK * manyHours; slot++) {
                 int end = endOfHour(next, limitNow);
-                put(starts, slot, next);
+                // Where an hour ends the next one starts; the first one starts at 0 for ever.
                 put(starts, slot + 1, end);
                 markSlot(slot, next, end);
                 next = end;
@@ -1388,13 +1354,8 @@ public final class ChoirBook {
         }
 
         int lastAccent(int start, int stop) {
-            if (isStressedFrom(start, stop - 2)) {
-                return stop - 2;
-            }
-            if (isStressedFrom(start, stop - 3)) {
-                return stop - 3;
-            }
-            return Math.max(start, stop - 3);
+            // The last but two is it in any other case: stressed, or for want of one that is.
+            return isStressedFrom(start, stop - 2) ? stop - 2 : Math.max(start, stop - 3);
         }
 
         int firstAccent(int start, int last) {
