@@ -128,11 +128,11 @@ public final class ChoirBook {
         }
         switch (what) {
             case 0:
-                return within(v, KIND_WEEKDAY, KIND_VIGIL) ? almanac.daysWith(Almanac.OF_KIND, v) : NONE;
+                return almanac.daysWith(Almanac.OF_KIND, v);
             case 1:
-                return within(v, 0, MOST_RANK) ? almanac.daysWith(Almanac.OF_RANK, v) : NONE;
+                return almanac.daysWith(Almanac.OF_RANK, v);
             case 2:
-                return within(v, 0, MOST_COLOUR) ? almanac.daysWith(Almanac.OF_COLOUR, v) : NONE;
+                return almanac.daysWith(Almanac.OF_COLOUR, v);
             case 3:
                 return v == 0 ? almanac.movedFeasts() : NONE;
             case 4:

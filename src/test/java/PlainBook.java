@@ -356,8 +356,7 @@ final class PlainBook {
     }
 
     int tally(int year, int what, int v) {
-        int[] most = {4, 9, 7, 0, 0, 0, 0};
-        if (!isYear(year) || !in(what, 0, 6) || !in(v, 0, most[what])) {
+        if (!isYear(year) || !in(what, 0, 6) || what > 2 && v != 0) {
             return -1;
         }
         YearBook b = book(year);

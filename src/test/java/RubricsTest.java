@@ -393,10 +393,24 @@ public final class RubricsTest {
         Check.due("12: commemorated", book.tally(2024, 5, 0), 1);
         Check.due("12: let go", book.tally(2024, 6, 0), 1);
         int[][] wrong = {
-            {2024, -1, 0}, {2024, 7, 0}, {1899, 0, 0}, {2200, 3, 0}, {2024, 3, 1}, {2024, 4, 1}, {2024, 5, -1},
-            {2024, 6, 1}, {2024, 0, -1}, {2024, 0, 5}, {2024, 1, -1}, {2024, 1, 10}, {2024, 2, -1}, {2024, 2, 8}};
+            {2024, -1, 0}, {2024, 7, 0}, {1899, 0, 0}, {2200, 3, 0}, {1899, 0, -1}, {2200, 2, 8}, {2024, 7, -1},
+            {2024, 3, 1}, {2024, 3, -1}, {2024, 4, 1}, {2024, 4, -1}, {2024, 5, 1}, {2024, 5, -1}, {2024, 6, 1},
+            {2024, 6, -1}};
         for (int[] w : wrong) {
             Check.due("12: " + w[0] + " " + w[1] + " " + w[2], book.tally(w[0], w[1], w[2]), -1);
+        }
+        tallyOfWhatNoOfficeHas(book);
+    }
+
+    private static void tallyOfWhatNoOfficeHas(ChoirBook book) {
+        int[] values = {-1, -2, 5, 8, 10, 64, Integer.MIN_VALUE, Integer.MAX_VALUE};
+        for (int what = 0; what < 3; what++) {
+            for (int v : values) {
+                // Rank 5 is an octave's here; no office has another of these.
+                int days = what == 1 && v == 5 ? 5 : 0;
+                Check.due("12: " + what + " " + v, book.tally(2024, what, v), days);
+                Check.due("12: new " + what + " " + v, new ChoirBook().tally(2048, what, v), 0);
+            }
         }
     }
 
