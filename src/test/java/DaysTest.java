@@ -37,8 +37,8 @@ public final class DaysTest {
     }
 
     private static void yearsAsTheCalendarHasThem() {
-        ChoirBook book = new ChoirBook();
         for (int year = 1900; year <= 2199; year++) {
+            ChoirBook book = new ChoirBook();
             LocalDate first = LocalDate.of(year, 1, 1);
             Check.due("2: days of " + year, book.year(year, 0), first.lengthOfYear());
             Check.due("2: weekday of " + year, book.year(year, 1), first.getDayOfWeek().getValue() % 7);
@@ -61,9 +61,9 @@ public final class DaysTest {
     }
 
     private static void daysAsTheCalendarHasThem() {
-        ChoirBook book = new ChoirBook();
         int[] years = {1900, 1904, 1999, 2000, 2023, 2024, 2100, 2199};
         for (int year : years) {
+            ChoirBook book = new ChoirBook();
             LocalDate date = LocalDate.of(year, 1, 1);
             for (int day = 0; day < date.lengthOfYear(); day++) {
                 LocalDate d = date.plusDays(day);

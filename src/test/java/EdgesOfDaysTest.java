@@ -68,8 +68,10 @@ public final class EdgesOfDaysTest {
         Check.refused("no feast to raise", book.raise(0, 1, 0));
         Check.due("no season on a weekday", book.office(2024, 0, 2), 0);
         Check.due("no season on a Sunday", book.office(2024, 6, 2), 3);
-        Check.due("nothing commemorated", book.office(2024, 6, 4), 0);
-        Check.refused("nothing commemorated", book.also(2024, 6, 0, 0));
+        for (int day = 0; day <= 6; day++) {
+            Check.due("nothing commemorated on day " + day, book.office(2024, day, 4), 0);
+            Check.refused("nothing commemorated on day " + day, book.also(2024, day, 0, 0));
+        }
         Check.due("no psalm is fixed", book.times(2024, 0, 6, 1), 1);
         Check.refused("no syllable", book.sing(0, 0, 0));
         Check.refused("no syllable to part", book.part(0));

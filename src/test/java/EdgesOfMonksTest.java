@@ -150,6 +150,7 @@ public final class EdgesOfMonksTest {
         int[] wrong = {0, 61, -1, EXTREMES[0], EXTREMES[1]};
         for (int days : wrong) {
             Check.refused("of " + days + " days", book.roster(2024, 0, days));
+            Check.refused("of " + days + " days within the year", book.roster(2024, 100, days));
         }
         Check.refused("none was made", book.turn(0, 0, 0));
         Check.due("one day", book.roster(2024, 0, 1), 2);
@@ -312,6 +313,16 @@ public final class EdgesOfMonksTest {
         for (int k = 0; k < due.length; k++) {
             Check.due("day " + k, book.turn(k, 0, 0), due[k]);
         }
+        ChoirBook last = new ChoirBook();
+        for (int i = 0; i < 24; i++) {
+            last.monk(i < 21 ? 6 : 1);
+        }
+        last.absence(21, 2024, 0, 1);
+        last.roster(2024, 0, 6);
+        for (int k = 0; k < due.length; k++) {
+            Check.due("of the last three monks, day " + k, last.turn(k, 0, 0), 21 + due[k]);
+        }
+        neverAtFirst();
         ChoirBook same = bookWith(4, 4, 4, 4);
         same.absence(0, 2024, 6, 6);
         // On the Sunday 1, 2 and 3 read, on the next day 0; then all had it once, and 1 to 3 earlier.
@@ -320,6 +331,14 @@ public final class EdgesOfMonksTest {
         for (int k = 0; k < readers.length; k++) {
             Check.due("reader of day " + k, same.turn(k, 2, 0), readers[k]);
         }
+    }
+
+    private static void neverAtFirst() {
+        ChoirBook book = bookWith(1, 1);
+        book.roster(2024, 0, 3);
+        Check.due("monk 0 had it on the third day", book.turn(2, 0, 0), 0);
+        book.roster(2024, 3, 1);
+        Check.due("but never in the next roster, as monk 1", book.turn(0, 0, 0), 0);
     }
 
     private static void ofThoseTheOldest() {
@@ -336,6 +355,24 @@ public final class EdgesOfMonksTest {
         }
         for (int i = 0; i < 6; i++) {
             Check.due("reader " + i, book.turn(0, 2, i), 5 + i);
+        }
+        // Two such days: none of the first one's had his role then, so others have it on the second.
+        book.feast(0, 103, 9, 0, 2);
+        book.roster(2024, 1, 2);
+        for (int i = 0; i < 4; i++) {
+            Check.due("cantor " + i + " of the first day", book.turn(0, 1, i), 1 + i);
+        }
+        for (int i = 0; i < 6; i++) {
+            Check.due("reader " + i + " of the first day", book.turn(0, 2, i), 5 + i);
+        }
+        Check.due("officiant of the second day", book.turn(1, 0, 0), 1);
+        int[] cantors = {0, 5, 6, 7};
+        for (int i = 0; i < 4; i++) {
+            Check.due("cantor " + i + " of the second day", book.turn(1, 1, i), cantors[i]);
+        }
+        int[] readers = {2, 3, 4, 11, 12, 13};
+        for (int i = 0; i < 6; i++) {
+            Check.due("reader " + i + " of the second day", book.turn(1, 2, i), readers[i]);
         }
     }
 
@@ -423,5 +460,8 @@ public final class EdgesOfMonksTest {
         }
         book.monk(7);
         Check.due("a monk told behind the roster", book.had(1, 0), 0);
+        for (int role : roles) {
+            Check.refused("role " + role + " of another", book.had(1, role));
+        }
     }
 }

@@ -233,6 +233,7 @@ public final class EdgesOfOfficesTest {
         }
         book.feast(0, 110, 3, 0, 1);
         Check.due("a fourth of the rank of the third", book.kept(2024, 5), -3);
+        Check.due("it does not go to the next day", book.office(2024, 10, 4), 0);
         Check.due("the third stays", book.kept(2024, 1), -2);
         book.raise(5, 4, 1);
         Check.due("a fourth of a greater rank", book.kept(2024, 5), -2);
@@ -331,6 +332,21 @@ public final class EdgesOfOfficesTest {
             Check.refused("day " + d[1] + " of " + d[0], book.also(d[0], d[1], 0, 1));
         }
         Check.due("the last of 2023", book.also(2023, 364, 0, 1), 1);
+        noneOfTheDaysBeside();
+    }
+
+    private static void noneOfTheDaysBeside() {
+        ChoirBook book = new ChoirBook();
+        for (int date = 102; date <= 104; date++) {
+            for (int i = 0; i < 4; i++) {
+                book.feast(0, date, 9, 0, 1);
+            }
+        }
+        int[] wrong = {-2, -1, 3, 4};
+        for (int i : wrong) {
+            Check.refused("i " + i + " between full days", book.also(2024, 2, i, 1));
+        }
+        Check.due("the third between full days", book.also(2024, 2, 2, 1), 7);
     }
 
     private static void keptOnADay() {
@@ -422,6 +438,19 @@ public final class EdgesOfOfficesTest {
             int[] wrong = {1, -1, 2, 9, EXTREMES[0], EXTREMES[1]};
             for (int v : wrong) {
                 Check.refused("what " + what + " of " + v, book.tally(2024, what, v));
+            }
+        }
+        // Of the first feast and the last one.
+        ChoirBook ends = new ChoirBook();
+        ends.feast(0, 1231, 5, 0, 2);
+        ends.feast(0, 1231, 9, 0, 2);
+        ends.feast(0, 1231, 5, 0, 2);
+        int[][] byWay = {{0, 0, 0, 2}, {0, 0, 2, 0}, {0, 2, 0, 0}};
+        for (int way = 2; way >= 0; way--) {
+            ends.raise(0, 5, way);
+            ends.raise(2, 5, way);
+            for (int what = 3; what <= 6; what++) {
+                Check.due("of way " + way + " what " + what, ends.tally(2024, what, 0), byWay[way][what - 3]);
             }
         }
         // An octave that is commemorated is no feast.

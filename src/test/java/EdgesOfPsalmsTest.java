@@ -146,6 +146,13 @@ public final class EdgesOfPsalmsTest {
         }
         book.fix(150, 0);
         Check.due("each day once", book.times(2024, 0, 365, 150), 366);
+        // Dealt at first, it leaves its place in the week.
+        ChoirBook dealt = new ChoirBook();
+        Check.due("dealt to Friday", dealt.times(2024, 0, 6, 150), 1);
+        dealt.fix(150, 0);
+        for (int day = 0; day < 7; day++) {
+            Check.due("fixed, once on day " + day, dealt.times(2024, day, day, 150), 1);
+        }
     }
 
     private static void fixTellsWhereItWas() {
@@ -193,6 +200,10 @@ public final class EdgesOfPsalmsTest {
             Check.refused("no seventh sung", book.sung(2024, 1, hour, 6));
         }
         Check.due("another hour has its own", book.festal(3, 150), 1);
+        Check.due("it", book.sung(2024, 1, 3, 0), 150);
+        Check.refused("none ahead of it", book.sung(2024, 1, 3, -1));
+        Check.refused("none behind it", book.sung(2024, 1, 3, 1));
+        Check.refused("none ahead of six", book.sung(2024, 1, 6, -1));
     }
 
     private static void festalNoneBehind6() {
@@ -412,6 +423,8 @@ public final class EdgesOfPsalmsTest {
         int[] wrong = {-1, 4, 5, EXTREMES[0], EXTREMES[1]};
         for (int i : wrong) {
             Check.refused("i " + i, book.sung(2024, 6, 0, i));
+            Check.refused("i " + i + " of the next hour", book.sung(2024, 6, 1, i));
+            Check.refused("i " + i + " of a weekday", book.sung(2024, 8, 3, i));
         }
         // 2023 begins with a Sunday, and ends with one.
         Check.due("day 0", book.sung(2023, 0, 0, 0), 1);
@@ -447,6 +460,14 @@ public final class EdgesOfPsalmsTest {
         Check.due("both ends of 2023 are Sundays", book.times(2023, 0, 364, 1), 53);
         Check.due("without the first", book.times(2023, 1, 364, 1), 52);
         Check.due("without the last", book.times(2023, 0, 363, 1), 52);
+        // Each psalm is sung on its weekday alone, the last one of a day and the first one of the next among them.
+        for (int weekday = 0; weekday < 5; weekday++) {
+            int last = book.dealt(weekday + 1, 0, 0) - 1;
+            Check.due("the last of " + weekday, book.times(2023, weekday, weekday, last), 1);
+            Check.due("not on the next", book.times(2023, weekday + 1, weekday + 1, last), 0);
+            Check.due("the first of the next", book.times(2023, weekday + 1, weekday + 1, last + 1), 1);
+            Check.due("not on " + weekday, book.times(2023, weekday, weekday, last + 1), 0);
+        }
         book.festal(0, 1);
         book.festal(0, 1);
         book.festal(6, 1);

@@ -1,7 +1,10 @@
 import java.util.Random;
 
-/** Runs of 512 calls on a ChoirBook and on a PlainBook beside it, always the same ones. */
+/** Runs of at most 512 calls on a ChoirBook and on a PlainBook beside it, always the same ones. */
 public final class RandomRunsTest {
+    /** No step below makes more calls than the 22 that are left behind these. */
+    private static final int CALLS_BEFORE_THE_LAST_STEP = 490;
+
     private static final int[] EXTREMES = {
         Integer.MIN_VALUE, Integer.MIN_VALUE + 1, -1000, -121, -3, -2, -1, 0, 1, 61, 1000, 2200, 100000,
         Integer.MAX_VALUE - 1, Integer.MAX_VALUE};
@@ -14,6 +17,7 @@ public final class RandomRunsTest {
     private final int spread;
     private final int wrongness;
     private final String run;
+    private int calls;
 
     private RandomRunsTest(int seed) {
         random = new Random(seed);
@@ -27,10 +31,11 @@ public final class RandomRunsTest {
     }
 
     public static void main(String[] args) {
-        for (int seed = 0; seed < 200; seed++) {
+        for (int seed = 0; seed < 500; seed++) {
             RandomRunsTest run = new RandomRunsTest(seed);
-            for (int n = 0; n < 512; n++) {
-                run.call(n < 200 ? run.random.nextInt(2) : 2 + run.random.nextInt(3), seed % 4);
+            int steps = 50 + run.random.nextInt(200);
+            for (int n = 0; n < 512 && run.calls <= CALLS_BEFORE_THE_LAST_STEP; n++) {
+                run.call(n < steps ? run.random.nextInt(2) : 2 + run.random.nextInt(3), seed % 4);
             }
         }
         Check.end("RandomRunsTest");
@@ -64,6 +69,7 @@ public final class RandomRunsTest {
         if (random.nextInt(3) == 0) {
             return num(-120, 250);
         }
+        calls++;
         int easter = book.year(mainYear, 2);
         return firstDay + random.nextInt(spread) - easter;
     }
@@ -279,6 +285,7 @@ public final class RandomRunsTest {
     }
 
     private void due(String call, int got, int want) {
+        calls++;
         Check.due(run + ": " + call, got, want);
     }
 }
